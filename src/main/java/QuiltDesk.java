@@ -280,7 +280,7 @@ public final class QuiltDesk {
                 int from = first + edge;
                 int to = first + next(patch, edge);
                 for (int point = first; point < first + corners[patch]; point++) {
-                    if (point != from && point != to && turn(from, to, point) <= 0) {
+                    if (point != from && point != to && bend(from, to, point) <= 0) {
                         return false;
                     }
                 }
@@ -293,7 +293,7 @@ public final class QuiltDesk {
         }
 
         /** More than 0 if a point lies left of the way from one to another, less if right. */
-        int turn(int from, int to, int point) {
+        int bend(int from, int to, int point) {
             return (xs[to] - xs[from]) * (ys[point] - ys[from])
                     - (ys[to] - ys[from]) * (xs[point] - xs[from]);
         }
@@ -305,9 +305,9 @@ public final class QuiltDesk {
             boolean left = false;
             boolean right = false;
             for (int corner = 0; corner < corners[other]; corner++) {
-                int turn = turn(from, to, other * CORNERS + corner);
-                left = left || turn > 0;
-                right = right || turn < 0;
+                int bend = bend(from, to, other * CORNERS + corner);
+                left = left || bend > 0;
+                right = right || bend < 0;
             }
             if (left == right) {
                 return ACROSS;
