@@ -43,7 +43,8 @@ public final class FaceTest {
         Set<String> missing = new TreeSet<>(Set.of(FACE));
         for (Method method : QuiltDesk.class.getDeclaredMethods()) {
             if (Modifier.isPublic(method.getModifiers())) {
-                Expect.same("of the face: " + text(method), missing.remove(text(method)) ? 1 : 0, 1);
+                Expect.same("of the face: " + text(method),
+                        missing.remove(text(method)) ? 1 : 0, 1);
                 names.add(method.getName());
             }
         }
