@@ -14,6 +14,7 @@ public final class CutsEdgesTest {
         leastAndGreatestSquare();
         halvesOfEveryKind();
         halvesThatAreNone();
+        thinTrianglesAreNoHalves();
         halvesByTurns();
         halvesOfASizeAndCloth();
         firstHalfStandsForTheSquare();
@@ -184,13 +185,10 @@ public final class CutsEdgesTest {
     /** "a triangle with two edges of the same length n along the axes", whichever they are. */
     private static void halvesOfEveryKind() {
         int[][] halves = {
-            {0, 0, 96, 0, 96, 96}, {0, 0, 96, 96, 0, 96}, {0, 0, 96, 0, 0, 96},
-            {96, 0, 96, 96, 0, 96},
+            {20, 50, 60, 50, 60, 90}, {20, 50, 60, 90, 20, 90}, {20, 50, 60, 50, 20, 90},
+            {60, 50, 60, 90, 20, 90},
         };
-        int[][] others = {
-            {0, 0, 96, 96, 0, 96}, {0, 0, 96, 0, 96, 96}, {96, 0, 96, 96, 0, 96},
-            {0, 0, 96, 0, 0, 96},
-        };
+        int[] others = {1, 0, 3, 2};
         for (int i = 0; i < halves.length; i++) {
             for (int first = 0; first < 3; first++) {
                 QuiltDesk desk = new QuiltDesk();
@@ -199,9 +197,14 @@ public final class CutsEdgesTest {
                     round[at] = halves[i][(at + 2 * first) % 6];
                 }
                 Sketch.patch(desk, 0, 1, round);
-                Sketch.patch(desk, 1, 2, others[i]);
+                Sketch.patch(desk, 1, 2, halves[others[i]]);
+                Sketch.box(desk, 2, 0, 0, 0, 96, 50);
+                Sketch.box(desk, 3, 0, 0, 90, 96, 96);
+                Sketch.box(desk, 4, 0, 0, 50, 20, 90);
+                Sketch.box(desk, 5, 0, 60, 50, 96, 90);
                 desk.place(0, 0, desk.keep(), 2 * i + 1);
-                cut("half " + i + " from " + first, desk, 1, 0, 0, 0, 117, 117, 1);
+                cut("half " + i + " from " + first, desk, 1, 0, 0, 0, 61, 61, 1);
+                cut("its other half", desk, 2, 0, 0, 0, 61, 61, 1);
             }
         }
     }
@@ -225,6 +228,20 @@ public final class CutsEdgesTest {
         cut("four corners", desk, 2, 0, 0, 0, 108, 108, 0);
         desk.place(0, 0, keepBox(desk, 3, 40, 40), 0);
         cut("a square itself", desk, 3, 0, 0, 0, 52, 52, 0);
+    }
+
+    /** One edge of 1 along an axis, and no other one. */
+    private static void thinTrianglesAreNoHalves() {
+        QuiltDesk desk = new QuiltDesk();
+        int[][] ends = {{0, 0}, {40, 0}, {41, 0}, {96, 0}, {96, 50}, {96, 51}, {96, 96}, {0, 96}};
+        for (int i = 0; i < 8; i++) {
+            int[] from = ends[i];
+            int[] to = ends[(i + 1) % 8];
+            Sketch.patch(desk, i, i, from[0], from[1], to[0], to[1], 30, 40);
+        }
+        desk.place(0, 0, desk.keep(), 0);
+        cut("a level edge of 1", desk, 1, 0, 0, 0, 52, 23, 0);
+        cut("an upright edge of 1", desk, 4, 0, 0, 0, 78, 23, 0);
     }
 
     /** "the first half .. stands for the square, the next one needs none, and so on by turns" */

@@ -54,7 +54,10 @@ public final class RefusedTest {
         promise18Count();
     }
 
-    /** Two kept, four placed, sash and border, two seams of an earlier drawing. */
+    /**
+     * Two kept, four placed, sash and border, two seams of an earlier drawing; cuts were asked for
+     * before the top was done, as what is left of them must not be told.
+     */
     private static QuiltDesk busy() {
         QuiltDesk desk = new QuiltDesk();
         Sketch.keepHalves(desk, 1, 2);
@@ -63,6 +66,7 @@ public final class RefusedTest {
         desk.place(0, 0, 0, 0);
         desk.place(0, 1, 1, 1);
         desk.place(2, 3, 0, 5);
+        desk.need(3, 0);
         desk.place(2, 4, 1, 6);
         desk.frame(0, 10, 4);
         desk.frame(1, 20, 5);
@@ -97,6 +101,7 @@ public final class RefusedTest {
         for (int place = 0; place < 36; place++) {
             desk.place(place / 6, place % 6, place % 10, place % 8);
         }
+        desk.need(3, 0);
         desk.frame(0, 60, 4);
         desk.frame(1, 60, 5);
         return desk;

@@ -42,6 +42,15 @@ final class Sketch {
         return desk.keep();
     }
 
+    /** Keeps a block with one corner between the ends of its edges, right at some height. */
+    static int keepMark(QuiltDesk desk, int height) {
+        desk.clear();
+        patch(desk, 0, 0, 0, 0, 96, 0, 96, height);
+        patch(desk, 1, 0, 0, 0, 96, height, 96, 96);
+        patch(desk, 2, 0, 0, 0, 96, 96, 0, 96);
+        return desk.keep();
+    }
+
     /** Draws four boxes round a fifth, that no straight line parts. */
     static void pinwheel(QuiltDesk desk, int firstPatch) {
         box(desk, firstPatch, 0, 0, 0, 64, 32);

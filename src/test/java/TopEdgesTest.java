@@ -10,6 +10,8 @@ public final class TopEdgesTest {
         placeOfAnyBlock();
         placeOfNone();
         placeAgainTurns();
+        turnsFromFourAreMirrored();
+        turnsModFour();
         frameOfTheLeastAndGreatestWidth();
         framePartsAreApart();
         frameOfZeroIsNone();
@@ -99,6 +101,56 @@ public final class TopEdgesTest {
         Expect.same("the turn of none is gone", desk.mismatch(0, 0), 0);
         desk.place(0, 1, 0, 7);
         Expect.same("the last turn", desk.mismatch(0, 0), 1);
+    }
+
+    /**
+     * Block 0 has a corner at 96, 10 and block 1 one at 10, 0; 2 and 3 have one at their right
+     * edge, at 10 and at 86. All have no other ones but at their ends.
+     */
+    private static QuiltDesk marked() {
+        QuiltDesk desk = new QuiltDesk();
+        Sketch.keepMark(desk, 10);
+        desk.clear();
+        Sketch.patch(desk, 0, 0, 0, 0, 10, 0, 0, 96);
+        Sketch.patch(desk, 1, 0, 10, 0, 96, 0, 0, 96);
+        Sketch.patch(desk, 2, 0, 96, 0, 96, 96, 0, 96);
+        desk.keep();
+        Sketch.keepMark(desk, 10);
+        Sketch.keepMark(desk, 86);
+        return desk;
+    }
+
+    /** At which height a block has a corner at its left edge, with a turn: 10, 86, or 0: none. */
+    private static int markAtLeft(QuiltDesk desk, int block, int turn) {
+        desk.place(0, 1, block, turn);
+        desk.place(0, 0, 2, 0);
+        int to10 = desk.mismatch(0, 0);
+        desk.place(0, 0, 3, 0);
+        int to86 = desk.mismatch(0, 0);
+        Expect.same("at most one corner", to10 + to86, 2);
+        return to10 == 0 ? 10 : to86 == 0 ? 86 : 0;
+    }
+
+    /** "if t is 4 or more, first at (96 - x, y)": turn 3 is not, turn 4 is. */
+    private static void turnsFromFourAreMirrored() {
+        QuiltDesk desk = marked();
+        Expect.same("the lower mark, turn 3", markAtLeft(desk, 1, 3), 86);
+        Expect.same("the lower mark, turn 7", markAtLeft(desk, 1, 7), 10);
+        Expect.same("the right mark, turn 0", markAtLeft(desk, 0, 0), 0);
+        Expect.same("the right mark, turn 4", markAtLeft(desk, 0, 4), 10);
+    }
+
+    /** "and then t mod 4 times at (96 - y, x)" */
+    private static void turnsModFour() {
+        QuiltDesk desk = marked();
+        int[] rightMark = {0, 0, 86, 0, 10, 0, 0, 0};
+        int[] lowerMark = {0, 0, 0, 86, 0, 0, 0, 10};
+        for (int turn = 0; turn < 8; turn++) {
+            Expect.same("the right mark, turn " + turn, markAtLeft(desk, 0, turn),
+                    rightMark[turn]);
+            Expect.same("the lower mark, turn " + turn, markAtLeft(desk, 1, turn),
+                    lowerMark[turn]);
+        }
     }
 
     /** "A SASH of width s (0 .. 60 ..)", "a BORDER of width b (0 .. 60 ..)": of any cloth. */
@@ -315,9 +367,10 @@ public final class TopEdgesTest {
         desk.place(1, 0, 0, 0);
         desk.frame(0, 9, 4);
         desk.frame(1, 9, 4);
+        Expect.same("asked before", desk.need(4, 0), 1 + 4);
         desk.swap(4, 5);
-        Expect.same("both of one cloth", desk.need(5, 0), 1 + 4);
         Expect.same("nothing left", desk.need(4, 0), 0);
+        Expect.same("both of one cloth", desk.need(5, 0), 1 + 4);
         desk.frame(0, 9, 6);
         desk.swap(6, 5);
         Expect.same("the border's", desk.need(6, 0), 4);

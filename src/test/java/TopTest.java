@@ -141,15 +141,6 @@ public final class TopTest {
         desk.keep();
     }
 
-    /** Keeps a block with one corner between the ends of its edges, right at some height. */
-    private static int keepMark(QuiltDesk desk, int height) {
-        desk.clear();
-        Sketch.patch(desk, 0, 0, 0, 0, 96, 0, 96, height);
-        Sketch.patch(desk, 1, 0, 0, 0, 96, height, 96, 96);
-        Sketch.patch(desk, 2, 0, 0, 0, 96, 96, 0, 96);
-        return desk.keep();
-    }
-
     private static void promise13Turns() {
         // by turns, the heights of the corners that come to lie at the left and the right edge
         int[] atLeft = {46, 61, 76, 86, 20, 35, 50, 10};
@@ -160,8 +151,8 @@ public final class TopTest {
         for (int turn = 0; turn < 8; turn++) {
             QuiltDesk desk = new QuiltDesk();
             keepFourMarks(desk);
-            int left = keepMark(desk, atLeft[turn]);
-            int right = keepMark(desk, atRight[turn]);
+            int left = Sketch.keepMark(desk, atLeft[turn]);
+            int right = Sketch.keepMark(desk, atRight[turn]);
             desk.place(2, 2, 0, turn);
             desk.place(2, 1, left, 0);
             desk.place(2, 3, right, 4);
