@@ -6,6 +6,7 @@ public final class SeamEdgesTest {
     public static void main(String[] args) {
         setsOfTwoOrMoreAreParted();
         lastEdgeGoesToTheFirstCorner();
+        cornersBeyondTheLastMakeNoEdge();
         eachLiesWhollyOnOneSide();
         someLieOnEitherSide();
         leastPatchThenLeastEdge();
@@ -68,6 +69,16 @@ public final class SeamEdgesTest {
         eight.close(5, 7, 0);
         Expect.same("closed with seven", eight.piece(), 1);
         seam("closed with seven", eight, 0, 5, 6, 1, 1);
+    }
+
+    /** From the fourth corner, that the triangle is closed without, a line would part the two. */
+    private static void cornersBeyondTheLastMakeNoEdge() {
+        QuiltDesk desk = new QuiltDesk();
+        desk.corner(0, 3, 96, 49);
+        Sketch.patch(desk, 0, 0, 48, 48, 40, 0, 56, 0);
+        Sketch.box(desk, 1, 0, 0, 50, 96, 96);
+        Expect.same("a corner too many", desk.piece(), 1);
+        seam("a corner too many", desk, 0, 1, 0, 1, 1);
     }
 
     /** "each of the set lies wholly on one side of its line": it may touch, but not cross it. */
