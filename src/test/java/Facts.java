@@ -1,7 +1,10 @@
 import java.util.ArrayList;
 import java.util.List;
 
-/** All that can be seen of a desk, so that two of them can be told apart. */
+/**
+ * What can be seen of a desk in some 300 calls, so that two of them can be told apart. It leaves
+ * out the corners 4 to 7 of a patch, and all cuts but the first ones of three cloths.
+ */
 final class Facts {
     private static final int REFUSED = -1001;
 
@@ -12,7 +15,7 @@ final class Facts {
         this.desk = desk;
     }
 
-    /** Takes the desk apart, in at most some 300 calls: nothing can be asked of it afterwards. */
+    /** Takes the desk apart: nothing can be asked of it afterwards. */
     static List<Integer> of(QuiltDesk desk) {
         Facts facts = new Facts(desk);
         facts.tellSeams();

@@ -1,9 +1,9 @@
 import java.util.List;
 
 /**
- * "EXCEPTIONS: .. Such a call changes nothing": every refused call of the promises 2 to 18, on
- * desks in several states, each of which must then tell the same as one on which no call was
- * refused.
+ * "EXCEPTIONS: .. Such a call changes nothing": every reason to refuse a call that the promises 2
+ * to 18 name, by values just outside and far outside, on desks in several states; each must then
+ * tell the same facts as a desk on which no call was refused.
  */
 public final class RefusedTest {
     private interface Maker {
