@@ -33,6 +33,7 @@ public final class RefusedTest {
         new RefusedTest("gap", 2, 2, RefusedTest::withGap).all();
         new RefusedTest("overlap", 2, 2, RefusedTest::withOverlap).all();
         new RefusedTest("full", 10, 23, RefusedTest::full).all();
+        allEightCorners();
         Expect.finish("RefusedTest");
     }
 
@@ -149,6 +150,23 @@ public final class RefusedTest {
             argument("corner, y " + no, d -> corner(d, 0, 0, 7, no));
             argument("the last corner, x " + no, d -> corner(d, 23, 7, no, 9));
             argument("the last corner, y " + no, d -> corner(d, 23, 7, 7, no));
+        }
+    }
+
+    /** Facts look at four corners of a patch alone, so the others are looked at here. */
+    private static void allEightCorners() {
+        for (int i = 0; i < 8; i++) {
+            int corner = i;
+            QuiltDesk desk = new QuiltDesk();
+            Sketch.patch(desk, 9, 2, 30, 0, 66, 0, 96, 30, 96, 66, 66, 96, 30, 96, 0, 66, 0, 30);
+            for (int no : outside(0, 96)) {
+                Expect.throwing("corner " + i + ", x " + no, Expect.ARGUMENT,
+                        () -> corner(desk, 9, corner, no, 48));
+                Expect.throwing("corner " + i + ", y " + no, Expect.ARGUMENT,
+                        () -> corner(desk, 9, corner, 48, no));
+            }
+            Expect.same("corner " + i + ": still closed", desk.open(9) ? 1 : 0, 1);
+            Expect.same("corner " + i + ": as it was", desk.close(9, 8, 2), 14832);
         }
     }
 
